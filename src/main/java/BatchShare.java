@@ -661,15 +661,11 @@ public final class BatchShare {
         }
 
         boolean holds(Part other) {
-            if (!isOfSort(other)) {
-                return false;
+            boolean holds = told[0] == other.told[0] && told[1] == other.told[1] && told[2] == other.told[2];
+            for (int least = 3; least < SHAPE - 1 && holds; least += 2) {
+                holds = told[least] <= other.told[least] && told[least + 1] >= other.told[least + 1];
             }
-            for (int col = 0; col < COLS; col++) {
-                if (other.least(col) < least(col) || other.greatest(col) > greatest(col)) {
-                    return false;
-                }
-            }
-            return true;
+            return holds;
         }
 
         void widen(Part one, Part other) {
@@ -685,13 +681,13 @@ public final class BatchShare {
         }
 
         boolean takes(Table table, int row) {
-            for (int col = table.firstCol; col < table.firstCol + table.width; col++) {
-                int number = table.at(row, col);
-                if (number < least(col) || number > greatest(col)) {
-                    return false;
-                }
+            boolean takes = table.hasRow(row);
+            for (int i = 0; i < table.width && takes; i++) {
+                int number = table.cells[row * table.width + i];
+                int least = 3 + 2 * (table.firstCol + i);
+                takes = number >= told[least] && number <= told[least + 1];
             }
-            return true;
+            return takes;
         }
 
         boolean takesBoth(State state, int rowR, int rowS) {
@@ -1491,31 +1487,23 @@ public final class BatchShare {
         }
 
         int costBy(int q, Shelf shelf) {
+            Query query = queries[q];
             Arrays.fill(serving, ABSENT);
-            if (queries[q].isVoid) {
-                return 0;
+            int apart = query.hasPart(OF_JOIN) ? pairs[q] : 0;
+            for (int table = OF_R; table <= OF_S; table++) {
+                if (query.hasPart(table)) {
+                    int server = shelf.leastHolding(query.parts[table], makes[table]);
+                    serving[table] = server;
+                    apart += server == ABSENT ? makes[table] : shelf.items[server].rows;
+                }
             }
-            if (queries[q].source() == OF_JOIN) {
-                return joinBy(q, shelf);
-            }
-            return scanBy(q, queries[q].source(), shelf);
-        }
-
-        private int scanBy(int q, int table, Shelf shelf) {
-            int server = shelf.leastHolding(queries[q].parts[table], makes[table]);
-            serving[table] = server;
-            return server == ABSENT ? makes[table] : shelf.items[server].rows;
-        }
-
-        private int joinBy(int q, Shelf shelf) {
-            int apart = scanBy(q, OF_R, shelf) + scanBy(q, OF_S, shelf) + pairs[q];
-            int server = shelf.leastHolding(queries[q].parts[OF_JOIN], UNBOUNDED);
-            if (server == ABSENT || shelf.items[server].rows > apart) {
+            int whole = query.hasPart(OF_JOIN) ? shelf.leastHolding(query.parts[OF_JOIN], UNBOUNDED) : ABSENT;
+            if (whole == ABSENT || shelf.items[whole].rows > apart) {
                 return apart;
             }
             Arrays.fill(serving, ABSENT);
-            serving[OF_JOIN] = server;
-            return shelf.items[server].rows;
+            serving[OF_JOIN] = whole;
+            return shelf.items[whole].rows;
         }
     }
 
@@ -1602,8 +1590,8 @@ public final class BatchShare {
                     taken[0] = c;
                 }
             }
-            for (int c = 0; c < choices.size; c++) {
-                takeBestPair(c, before, memory);
+            for (int one = 0; one < choices.size; one++) {
+                takeBestPair(one, before, memory);
             }
         }
 

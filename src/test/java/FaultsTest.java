@@ -84,6 +84,8 @@ public final class FaultsTest {
         noQuery("  ", 2, BYTE);
         noQuery("q", 0, BYTE);
         noQuery("rs", 0, BYTE);
+        noQuery("rz", 0, BYTE);
+        noQuery("r if az<1", 5, BYTE);
         noQuery("rif a<1", 0, BYTE);
         noQuery("R", 0, BYTE);
         noQuery("if a<1", 0, BYTE);
