@@ -24,29 +24,12 @@ public final class PromisesTest {
         Check.due(call, got, want);
     }
 
-    /** All that count tells, in one number, so that a test can see that nothing happened. */
     private static String all(BatchShare x) {
-        StringBuilder told = new StringBuilder();
-        for (int what = 0; what < 12; what++) {
-            told.append(x.count(what)).append(' ');
-        }
-        for (int table = 0; table < 2; table++) {
-            for (int row = 0; row < 12; row++) {
-                for (int col = 0; col < 5; col++) {
-                    told.append(x.cell(table, row, col)).append(' ');
-                }
-            }
-        }
-        for (int k = 0; k < 6; k++) {
-            for (int what = 0; what < 16; what++) {
-                told.append(x.kept(k, what)).append(' ');
-            }
-        }
-        return told.toString();
+        return Check.told(x);
     }
 
     private static void same(String call, String before, BatchShare x) {
-        Check.holds(call + ": nothing happens", before.equals(all(x)));
+        Check.same(call, before, x);
     }
 
     private static void p1newObject() {
@@ -688,15 +671,11 @@ public final class PromisesTest {
 
     private static void p25undo() {
         BatchShare x = small();
-        String[] was = new String[12];
-        for (int act = 0; act < 12; act++) {
-            was[act] = all(x);
-            act(x, act);
-            Check.holds("p25 act " + act + " is one", x.count(9) == act + 1);
-        }
-        for (int act = 11; act >= 0; act--) {
-            due("p25 undo " + act, x.undo(), act);
-            same("p25 undo " + act + ": as before it", was[act], x);
+        for (int acts = 1; acts <= 12; acts++) {
+            BatchShare y = acted(acts);
+            due("p25 each act is one", y.count(9), acts);
+            due("p25 undo " + acts, y.undo(), acts - 1);
+            same("p25 undo " + acts + ": as before it", all(acted(acts - 1)), y);
         }
         due("p25 none can", x.undo(), -2);
         for (int i = 0; i < 25; i++) {
@@ -716,6 +695,14 @@ public final class PromisesTest {
         due("p25 QUERIES stay", x.count(3), 5);
         due("p25 x stays", x.count(10), 9);
         due("p25 not STRUCK", x.count(4), 0);
+    }
+
+    private static BatchShare acted(int acts) {
+        BatchShare x = small();
+        for (int act = 0; act < acts; act++) {
+            act(x, act);
+        }
+        return x;
     }
 
     private static void act(BatchShare x, int act) {
@@ -1013,7 +1000,7 @@ public final class PromisesTest {
         x.change(0, 0, 0, 9);
         x.seed(8);
         x.image(1);
-        Check.query(x, "join b=e");
+        Check.query(x, "join b=e if a<0");
         x.strike(4);
         x.strike(1);
         for (int i = 0; i < 30; i++) {

@@ -5,7 +5,7 @@ import java.lang.reflect.Modifier;
 import java.util.Arrays;
 import java.util.Random;
 
-/** No call throws, whatever it is given, wherever it comes; asking changes nothing; a run needs little room. */
+/** No call throws, whatever it is given, wherever it comes; a run needs little room. */
 public final class RoomTest {
     private static final int CALLS = 512;
     /** The room has 7.3 million fields and elements; at 4 bytes or more each, this is less than a tenth of it. */
@@ -53,59 +53,6 @@ public final class RoomTest {
                 }
             }
         }
-    }
-
-    private static String told(BatchShare x) {
-        StringBuilder told = new StringBuilder();
-        for (int what = 0; what < 12; what++) {
-            told.append(x.count(what)).append(' ');
-        }
-        for (int row = 0; row < 12; row++) {
-            for (int col = 0; col < 5; col++) {
-                told.append(x.cell(0, row, col)).append(x.cell(1, row, col)).append(' ');
-            }
-        }
-        for (int k = 0; k < 6; k++) {
-            for (int what = 0; what < 16; what++) {
-                told.append(x.kept(k, what)).append(' ');
-            }
-        }
-        return told.toString();
-    }
-
-    private static void askingChangesNothing() {
-        BatchShare x = full();
-        x.keep(0);
-        x.keep(7);
-        x.run();
-        x.put(0, 1, 1, 1);
-        x.change(0, 3, 1, 9);
-        x.strike(2);
-        x.seed(99);
-        String before = told(x);
-        for (int i = -1; i < 9; i++) {
-            x.digest(i);
-            x.alike(i);
-            x.alone(i);
-            x.gain(i);
-            x.greedy(i);
-            x.best(i);
-            x.costs(i);
-            for (int k = -1; k < 4; k++) {
-                x.form(i, k);
-                x.answer(i, k, 0);
-                x.candidate(i, k + 11);
-                x.serves(i, k);
-                x.marks(k, i);
-                x.residue(i, k);
-            }
-        }
-        x.candidates();
-        x.batch();
-        x.shared();
-        x.drift(3, 20, 90, 0);
-        x.drift(3, 20, 90, 1);
-        Check.holds("by what is asked nothing changes", before.equals(told(x)));
     }
 
     private interface Call {
@@ -160,7 +107,6 @@ public final class RoomTest {
 
     public static void main(String[] args) {
         anyArguments();
-        askingChangesNothing();
         littleRoom();
         Check.close("RoomTest");
     }
