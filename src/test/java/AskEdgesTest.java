@@ -188,6 +188,37 @@ public final class AskEdgesTest {
         best("a pair ahead of it with room", Check.with("base 3" + more, last), 4, 0, 1);
     }
 
+    /** Asked for before, a WIDE one had no ROWS; then there are rows, and a CANDIDATE fewer. */
+    private static void onlyCandidatesOfNow() {
+        Check.says("as if nothing was KEPT, one CANDIDATE behind the other is taken");
+        BatchShare x = Check.with("base 9" + ";r 5 0 0".repeat(4), "r if a=0", "r if a=1", "r if a=2");
+        greedy("three PARTS, three WIDE ones", x, 1, 3 * 4 - 4, 4);
+        best("three PARTS, three WIDE ones", x, 3 * 4 - 4, 4, NONE);
+        x.put(0, 0, 0, 0);
+        x.put(0, 0, 0, 0);
+        x.put(0, 1, 0, 0);
+        x.put(0, 1, 0, 0);
+        x.strike(2);
+        due("two PARTS, one WIDE one", x.candidates(), 3);
+        greedy("now 2 * 4 - 8 is not above 0", x, 0, 0);
+        best("now 2 * 4 - 8 is not above 0", x, 0, NONE, NONE);
+    }
+
+    private static void asManyCandidatesAsCanBe() {
+        Check.says("each unlike all ahead of it");
+        String[] joins = new String[8];
+        for (int i = 0; i < 8; i++) {
+            joins[i] = "join a=d if a=" + i + " and d=" + (7 - i);
+        }
+        BatchShare x = Check.with("base 9;r 9 9 9;s 9 9", joins);
+        due("as many as there can be", x.candidates(), 108);
+        due("the last, of kind 2", x.gain(107), 10000 + 2 * 2 - 2);
+        due("none behind it", x.gain(108), NONE);
+        // The widest of kind 0, 1, 2 serve all eight: 8 * 1 - 1, 8 * 1 - 1, 8 * 2 - 2.
+        greedy("of 108", x, 1, 14, 44);
+        best("of 108, and the pair of kinds 0 and 1 gains as much", x, 14, 44, NONE);
+    }
+
     private static void marks() {
         Check.says("MARKS of a row of R, of S: QUERIES (not VOID, not STRUCK) that have a PART of kind 0, of kind 1, in whose RANGES it is, as bits.");
         BatchShare x = Check.with("base 9;r 3 3 3;s 6 6", "r if a>=3", "r if b<=3", "r if c=3", "join a=d if a<=3 and e>6", "join b=e", "s if d<=6",
@@ -506,6 +537,8 @@ public final class AskEdgesTest {
         greedySixAtMost();
         bestAboveNothing();
         bestOfSeveral();
+        onlyCandidatesOfNow();
+        asManyCandidatesAsCanBe();
         marks();
         sharedScan();
         residues();
