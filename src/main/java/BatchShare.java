@@ -661,6 +661,7 @@ public final class BatchShare {
         }
 
         boolean holds(Part other) {
+            // Not by isOfSort: calls go eight deep at most, and this is the eighth.
             boolean holds = told[0] == other.told[0] && told[1] == other.told[1] && told[2] == other.told[2];
             for (int least = 3; least < SHAPE - 1 && holds; least += 2) {
                 holds = told[least] <= other.told[least] && told[least + 1] >= other.told[least + 1];
